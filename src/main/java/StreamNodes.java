@@ -317,7 +317,7 @@ public final class StreamNodes {
         return order.ownCause < 0 || tokens.failAt(FAULT_CAUSE, slots.place[order.ownCause]);
     }
 
-    /** A row of at least so many; what it holds stays. Twice as long, so that growing never costs more than the rows. */
+    /** A row of at least so many, with what it holds; at least doubled, so that growing stays cheap in all. */
     private static int[] fit(int[] row, int need) {
         return row.length >= need ? row : Arrays.copyOf(row, Math.max(need, 2 * row.length));
     }
@@ -336,9 +336,13 @@ public final class StreamNodes {
         }
     }
 
-    private static boolean hasTwoSides(int kind) {
-        int rank = rank(kind);
-        return rank > RANK_BRACKET && rank < RANK_UNARY && kind != ELSE;
+    /** Whether what is behind it is nested deeper: 1, or 0 for those that are read from left to right. */
+    private static int nesting(int kind) {
+        switch (kind) {
+            case OR: case XOR: case AND: case EQUAL: case UNEQUAL: case LESS: case AT_MOST: case MORE: case AT_LEAST:
+            case PLUS: case MINUS: case TIMES: case DIV: case MOD: return 0;
+            default: return 1;
+        }
     }
 
     /** The words of a text by numbers: the same word has the same number, the keywords have the lowest. */
@@ -489,8 +493,13 @@ public final class StreamNodes {
             return true;
         }
 
+        /** A fault of what stands here. */
         boolean fail(int fault) {
-            return failAt(fault, place[now]);
+            if (faultKind == 0) {
+                faultKind = fault;
+                faultPlace = place[now];
+            }
+            return false;
         }
 
         boolean failAt(int fault, int where) {
@@ -994,7 +1003,7 @@ public final class StreamNodes {
 
         /** The variable of this node that is named here; -1: none. */
         int variableNow() {
-            int word = tokens.itemNow();
+            int word = tokens.item[tokens.now];
             return tokens.words.owner[word] == nodes.size + 1 ? tokens.words.variable[word] : -1;
         }
 
@@ -1090,19 +1099,15 @@ public final class StreamNodes {
             return true;
         }
 
-        private static int nesting(int kind) {
-            int rank = rank(kind);
-            return rank < RANK_EITHER || rank == RANK_UNARY ? 1 : 0;
-        }
-
         private boolean readOperator() {
             int kind = tokens.kindNow();
             boolean closedCall = many && waits == 0;
             if (kind == WHEN && !closedCall) {
                 return readWhen();
             }
-            if (hasTwoSides(kind) && !closedCall) {
-                return readTwoSided(kind);
+            int rank = rank(kind);
+            if (rank > RANK_BRACKET && rank < RANK_UNARY && kind != ELSE && !closedCall) {
+                return readTwoSided(kind, rank);
             }
             return reduce(RANK_ARROW) && readCloser(kind);
         }
@@ -1114,11 +1119,10 @@ public final class StreamNodes {
             }
             code.add(WHEN, clock, 1);
             height[operands - 1]++;
-            return heightFits();
+            return height[operands - 1] <= HIGHEST || tokens.fail(FAULT_SIZE);
         }
 
-        private boolean readTwoSided(int kind) {
-            int rank = rank(kind);
+        private boolean readTwoSided(int kind, int rank) {
             boolean fromTheRight = rank <= RANK_IMPLIES;
             if (!reduce(fromTheRight || rank == RANK_COMPARED ? rank + 1 : rank)) {
                 return false;
@@ -1134,8 +1138,8 @@ public final class StreamNodes {
             boolean good = true;
             while (good && waits > 0 && rank(waiting[waits - 1]) >= least) {
                 waits--;
-                int kind = waiting[waits] == ELSE ? IF : waiting[waits];
-                int sides = kind == IF ? 3 : hasTwoSides(kind) ? 2 : 1;
+                int kind = waiting[waits];
+                int sides = kind == ELSE ? 3 : rank(kind) == RANK_UNARY ? 1 : 2;
                 depth -= nesting(kind);
                 operands -= sides - 1;
                 int most = height[operands - 1];
@@ -1143,14 +1147,10 @@ public final class StreamNodes {
                     most = most >= height[operands - 1 + i] ? most : height[operands - 1 + i];
                 }
                 height[operands - 1] = most + 1;
-                code.add(kind, 0, sides);
-                good = heightFits();
+                code.add(kind == ELSE ? IF : kind, 0, sides);
+                good = most < HIGHEST || tokens.fail(FAULT_SIZE);
             }
             return good;
-        }
-
-        private boolean heightFits() {
-            return height[operands - 1] <= HIGHEST || tokens.fail(FAULT_SIZE);
         }
 
         private boolean readCloser(int kind) {
@@ -1199,7 +1199,7 @@ public final class StreamNodes {
             height[operands] = highest[waits] + 1;
             operands++;
             tokens.step();
-            return heightFits();
+            return highest[waits] < HIGHEST || tokens.fail(FAULT_SIZE);
         }
     }
 
@@ -1490,7 +1490,8 @@ public final class StreamNodes {
         void link(int main) {
             int parts = nodes.parts[main];
             slots.begin(nodes.allVariables[main], parts + 1, nodes.cells[main]);
-            stack = fit(stack, parts + VARIABLES_MOST);
+            // Each open node may hold all the outputs of the one it calls, beside one slot for a part.
+            stack = fit(stack, parts + nodes.allVariables[main]);
             open = 0;
             top = 0;
             variables = 0;
