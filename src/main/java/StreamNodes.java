@@ -1446,11 +1446,10 @@ public final class StreamNodes {
             c[slot] = -1;
         }
 
-        int addCell(int from, int onClock) {
+        void addCell(int from, int onClock) {
             cellFrom[cells] = from;
             cellClock[cells] = onClock;
             cells++;
-            return cells - 1;
         }
 
         int side(int slot, int which) {

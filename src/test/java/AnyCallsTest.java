@@ -80,7 +80,10 @@ public final class AnyCallsTest {
     private void longText(int round) {
         String head = random.nextBoolean() ? GOOD[0] : GOOD[0] + "node n(x: int; c: bool) returns (y: int); let y = ";
         StringBuilder text = new StringBuilder(head);
-        String piece = PIECES[round % PIECES.length] + (round < PIECES.length ? "" : PIECES[random.nextInt(PIECES.length)]);
+        String piece = PIECES[round % PIECES.length];
+        if (round >= PIECES.length) {
+            piece += PIECES[random.nextInt(PIECES.length)];
+        }
         while (text.length() + piece.length() < 65500) {
             text.append(piece);
         }

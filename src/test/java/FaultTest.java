@@ -410,8 +410,8 @@ public final class FaultTest {
     }
 
     private static void clocks() {
-        for (String wrong : new String[] {"h", "x when c", "x + h", "h + k", "current (h + k)", "current x", "current 1",
-            "current f(1)", "current (pre 1)", "(x when c) when c", "h when c", "x + (x when c)",
+        for (String wrong : new String[] {"h", "x when c", "x + h", "h + k", "current (h + k)", "current x",
+            "current 1", "current f(1)", "current (pre 1)", "(x when c) when c", "h when c", "x + (x when c)",
             "current ((x when c) + (x when not c))", "if c then h else h", "if c then h else k", "x -> h", "x fby h",
             "pre h", "f(h)", "current f(h) + h", "current (h -> k)", "current current h", "current f(x)",
             "current (if c then h else h)", "1 when c"}) {
@@ -422,12 +422,12 @@ public final class FaultTest {
             "current ((x + 1) when not c)", "current (if c when c then h else 1)", "f(1) + x", "1 + 2"}) {
             good(right);
         }
-        String head = TWO + MAIN + "var h: int when c; k: bool when not c; l: bool when c; let y = x; b = c; l = true; ";
-        Check.faultyAt(head + "@(h, k) = two(1, true); tel", 6);
+        String head = TWO + MAIN + "var h: int when c; k: bool when not c; l: bool when c; let y = x; b = c; ";
+        Check.faultyAt(head + "l = true; @(h, k) = two(1, true); tel", 6);
         Check.faultyAt(TWO + MAIN + "var h: int when c; let y = x; @(h, b) = two(1, true); tel", 6);
         Check.faultyAt(TWO + MAIN + "let @(y, b) = two(x when c, c); tel", 6);
-        Check.program(head.replace("l = true; ", "k = true; ") + "(h, l) = two(1, true); tel");
-        Check.program(head.replace("l = true; ", "k = true; ") + "(h, l) = two(x when c, true); tel");
+        Check.program(head + "k = true; (h, l) = two(1, true); tel");
+        Check.program(head + "k = true; (h, l) = two(x when c, true); tel");
         ofAll("f(h) + c", 4);
         Check.faultyAt(MAIN + "let @y = x when c; b = x; tel", 6);
         Check.faultyAt(MAIN + "let @b = x; y = x when c; tel", 4);

@@ -449,7 +449,8 @@ final class Oracle {
         if (at("number", "true", "false")) {
             Token token = take("number", "true", "false");
             Expression made = make(token.kind);
-            made.number = token.kind.equals("number") ? Integer.parseInt(token.text) : token.kind.equals("true") ? 1 : 0;
+            boolean number = token.kind.equals("number");
+            made.number = number ? Integer.parseInt(token.text) : token.kind.equals("true") ? 1 : 0;
             return made;
         }
         if (at("(")) {

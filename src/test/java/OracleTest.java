@@ -89,7 +89,8 @@ public final class OracleTest {
         }
         String[] ends = {";", "", ")", "when", " -> 1;", " x;", "#"};
         String end = random.nextInt(4) == 0 ? ends[random.nextInt(ends.length)] : ";";
-        return "node f(x: int) returns (y: int); let y = x; tel node g(c: bool; x: int) returns (y: int); let y = x; tel"
+        return "node f(x: int) returns (y: int); let y = x; tel"
+            + " node g(c: bool; x: int) returns (y: int); let y = x; tel"
             + " node main(c: bool; x: int) returns (y: int; b: bool); let b = c; y = " + front + chain + behind + end
             + " tel";
     }

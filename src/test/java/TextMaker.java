@@ -232,7 +232,8 @@ final class TextMaker {
     private String current(boolean bool, Var c, boolean so, int rank, int depth) {
         List<Var> usable = new ArrayList<>();
         for (Var var : vars) {
-            if (var.bool && var.c == c && (c == null || var.so == so) && var.deep < 8 && (var.input || var.rank < rank)) {
+            boolean here = var.c == c && (c == null || var.so == so);
+            if (var.bool && here && var.deep < 8 && (var.input || var.rank < rank)) {
                 usable.add(var);
             }
         }
