@@ -796,7 +796,8 @@ public final class StreamNodes {
         }
 
         boolean readBody() {
-            boolean good = readVars() && tokens.expect(LET);
+            // One equation must stand there, so a tel right behind let is refused as what can't begin one.
+            boolean good = readVars() && tokens.expect(LET) && readEquation();
             for (int i = 0; good && i < tokens.size && tokens.kindNow() != TEL; i++) {
                 good = readEquation();
             }

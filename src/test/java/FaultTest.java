@@ -20,6 +20,7 @@ public final class FaultTest {
         namesDeclared();
         namesUsed();
         nodeEnds();
+        noEquations();
         nesting();
         height();
         manyNodes();
@@ -239,7 +240,6 @@ public final class FaultTest {
     }
 
     private static void nodeEnds() {
-        Check.faultyAt(MAIN + "let @tel", 2);
         Check.faultyAt(MAIN + "let y = 1; @tel", 2);
         Check.faultyAt(MAIN + "var h: int; let y = 1; b = c; @tel", 2);
         Check.faultyAt(MAIN + "let y = 1; b = c; y = 2; @tel", 2);
@@ -247,6 +247,19 @@ public final class FaultTest {
         Check.faultyAt(TWO + MAIN + "let (y, b) = two(x, c); b = c; @tel", 2);
         Check.faultyAt(TWO + MAIN + "let b = c; (y, y) = two(x, c); @tel", 2);
         Check.faultyAt(MAIN + "let y = 1; @tel #", 2);
+    }
+
+    /** One equation at least stands in each node, so its lack is found ahead of what is looked at with the tel. */
+    private static void noEquations() {
+        Check.faultyAt("node gate(open:bool)returns(lamp:bool); let @tel", 1);
+        Check.faultyAt(MAIN + "let @tel", 1);
+        Check.faultyAt(MAIN + "let@;tel", 1);
+        Check.faultyAt(MAIN + "let -- y = 1; b = c;\n @tel #", 1);
+        Check.faultyAt(MAIN + "var h: int; g: bool when c; let @tel", 1);
+        Check.faultyAt(MAIN + "let @tel node f(a: int) returns (r: int); let r = a; tel", 1);
+        Check.faultyAt(F + TWO + MAIN + "let @tel", 1);
+        Check.faultyAt(MAIN + "let @", 1);
+        Check.faultyAt("node one(a: int) returns (r: int); let r = a; tel node two(a: int) returns (r: int); let @tel", 1);
     }
 
     private static void nesting() {

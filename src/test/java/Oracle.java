@@ -258,9 +258,9 @@ final class Oracle {
             } while (at("name"));
         }
         take("let");
-        while (!at("tel")) {
+        do {
             readEquation();
-        }
+        } while (!at("tel"));
         checkNode();
         take("tel");
         nodes.put(node.name, node);
