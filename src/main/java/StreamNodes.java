@@ -4,8 +4,6 @@ import java.util.NoSuchElementException;
 /** Synchronous programs: nodes with equations over streams, read from a tape, checked, and run instant by instant. */
 public final class StreamNodes {
     private static final int TAPE_MOST = 65536;
-    // 512 calls of feed bring no more than this, so only a tape beyond the promised use has to grow.
-    private static final int TAPE_FIRST = 10240;
     private static final int FEED_BYTES = 20;
     private static final int TICKS_MOST = 1000;
     private static final long ABSENT = 1L << 40;
@@ -22,6 +20,21 @@ public final class StreamNodes {
     private static final int ALL_PARTS_MOST = 30000;
     // Sizes as PUT IN can double with each node; beyond this they are all the same: too large.
     private static final int SIZE_CAP = 1000000;
+
+    // How long the rows are: they are made with the object and never again, so each has room for what the limits allow.
+    private static final int TOKENS_ROOM = TAPE_MOST + 1;
+    // What is known in a text are its nodes and their variables, and the first name that is not known ends the reading.
+    private static final int NAMES_ROOM = NODES_MOST * (VARIABLES_MOST + 1) + 1;
+    // No two operands stand next to each other in a text, and no two names.
+    private static final int OPERANDS_ROOM = TAPE_MOST / 2 + 1;
+    // An equation has at least a name, =, an operand and ; in it.
+    private static final int EQUATIONS_ROOM = TAPE_MOST / 4 + 1;
+    // One for each variable, each part, and the number 1 that each -> remembers.
+    private static final int SLOTS_ROOM = PUT_IN_MOST + PARTS_MOST + 1;
+    // A fby has two.
+    private static final int CELLS_ROOM = 2 * PARTS_MOST;
+    // The base, and each variable as C and as not C.
+    private static final int CLOCKS_ROOM = 2 * PUT_IN_MOST + 1;
 
     private static final int FAULT_SIGN = 1;
     private static final int FAULT_NAME = 2;
@@ -112,7 +125,8 @@ public final class StreamNodes {
     private final Order order;
     private final Program program;
     private final int[] given = new int[VARIABLES_MOST];
-    private byte[] tape = new byte[TAPE_FIRST];
+    // The keywords stand behind the tape, so that all words are found in one row.
+    private final byte[] tape = new byte[TAPE_MOST + KEYWORDS.length()];
     private int tapeLength;
     private int allParts;
     private int main = -1;
@@ -120,7 +134,10 @@ public final class StreamNodes {
     private int keptInstants;
 
     public StreamNodes() {
-        tokens = new Tokens();
+        for (int i = 0; i < KEYWORDS.length(); i++) {
+            tape[TAPE_MOST + i] = (byte) KEYWORDS.charAt(i);
+        }
+        tokens = new Tokens(tape);
         nodes = new Nodes();
         code = new Code();
         reader = new NodeReader(tokens, nodes, code);
@@ -133,9 +150,6 @@ public final class StreamNodes {
     public int feed(int a, int b, int c, int d, int e) throws IllegalStateException {
         if (tapeLength + FEED_BYTES > TAPE_MOST) {
             throw new IllegalStateException();
-        }
-        if (tapeLength + FEED_BYTES > tape.length) {
-            tape = Arrays.copyOf(tape, TAPE_MOST);
         }
         append(a);
         append(b);
@@ -157,10 +171,10 @@ public final class StreamNodes {
         main = -1;
         instants = 0;
         keptInstants = 0;
-        tokens.scan(tape, tapeLength);
+        tokens.scan(tapeLength);
         tapeLength = 0;
-        nodes.begin(tokens.size);
-        code.begin(tokens.size);
+        nodes.begin();
+        code.begin();
         boolean more = true;
         for (int i = 0; more && i <= NODES_MOST; i++) {
             more = reader.readHead() && reader.readBody() && tokens.kindNow() != END;
@@ -317,11 +331,6 @@ public final class StreamNodes {
         return order.ownCause < 0 || tokens.failAt(FAULT_CAUSE, slots.place[order.ownCause]);
     }
 
-    /** A row of at least so many, with what it holds; at least doubled, so that growing stays cheap in all. */
-    private static int[] fit(int[] row, int need) {
-        return row.length >= need ? row : Arrays.copyOf(row, Math.max(need, 2 * row.length));
-    }
-
     private static int rank(int kind) {
         switch (kind) {
             case ARROW: case FBY: case ELSE: return RANK_ARROW;
@@ -348,53 +357,37 @@ public final class StreamNodes {
     /** The words of a text by numbers: the same word has the same number, the keywords have the lowest. */
     private static final class Words {
         private static final int HEADS = 512;
-        final byte[] keywords = new byte[KEYWORDS.length()];
+        private static final int WORDS_ROOM = KEYWORD_COUNT + NAMES_ROOM;
+        final byte[] text;
         final int[] head = new int[HEADS];
-        byte[] letters = new byte[512];
-        int lettersUsed;
-        int[] from = new int[64];
-        int[] length = new int[64];
-        int[] next = new int[64];
+        final int[] from = new int[WORDS_ROOM];
+        final int[] length = new int[WORDS_ROOM];
+        final int[] next = new int[WORDS_ROOM];
         // The variable of that name in the node that declared it last, and that node, from 1.
-        int[] variable = new int[64];
-        int[] owner = new int[64];
+        final int[] variable = new int[WORDS_ROOM];
+        final int[] owner = new int[WORDS_ROOM];
         // The node of that name, from 1; 0: none.
-        int[] node = new int[64];
+        final int[] node = new int[WORDS_ROOM];
         int size;
 
-        Words() {
-            for (int i = 0; i < keywords.length; i++) {
-                keywords[i] = (byte) KEYWORDS.charAt(i);
-            }
+        Words(byte[] tape) {
+            text = tape;
         }
 
-        void begin(int textLength) {
-            makeRoom(KEYWORD_COUNT + textLength / 2 + 1, keywords.length + textLength);
+        void begin() {
             Arrays.fill(head, -1);
             size = 0;
-            lettersUsed = 0;
-            int start = 0;
-            for (int i = 0; i < keywords.length; i++) {
-                if (keywords[i] == ' ') {
-                    find(keywords, start, i - start);
+            int start = TAPE_MOST;
+            for (int i = TAPE_MOST; i < text.length; i++) {
+                if (text[i] == ' ') {
+                    find(start, i - start);
                     start = i + 1;
                 }
             }
         }
 
-        private void makeRoom(int words, int allLetters) {
-            from = fit(from, words);
-            length = fit(length, words);
-            next = fit(next, words);
-            variable = fit(variable, words);
-            owner = fit(owner, words);
-            node = fit(node, words);
-            if (letters.length < allLetters) {
-                letters = new byte[Math.max(allLetters, 2 * letters.length)];
-            }
-        }
-
-        int find(byte[] text, int at, int count) {
+        /** The word's number; -1: it is new, and there is no room for one more. */
+        int find(int at, int count) {
             int hash = 0;
             for (int i = 0; i < count; i++) {
                 hash = hash * 31 + text[at + i];
@@ -402,30 +395,28 @@ public final class StreamNodes {
             int bucket = hash & (HEADS - 1);
             int word = head[bucket];
             for (int i = 0; i < size && word >= 0; i++) {
-                if (length[word] == count && isAt(word, text, at)) {
+                if (length[word] == count && isAt(word, at)) {
                     return word;
                 }
                 word = next[word];
             }
-            return add(text, at, count, bucket);
+            return size < WORDS_ROOM ? add(at, count, bucket) : -1;
         }
 
-        private boolean isAt(int word, byte[] text, int at) {
+        private boolean isAt(int word, int at) {
             int start = from[word];
             for (int i = 0; i < length[word]; i++) {
-                if (letters[start + i] != text[at + i]) {
+                if (text[start + i] != text[at + i]) {
                     return false;
                 }
             }
             return true;
         }
 
-        private int add(byte[] text, int at, int count, int bucket) {
+        private int add(int at, int count, int bucket) {
             int word = size++;
-            System.arraycopy(text, at, letters, lettersUsed, count);
-            from[word] = lettersUsed;
+            from[word] = at;
             length[word] = count;
-            lettersUsed += count;
             next[word] = head[bucket];
             head[bucket] = word;
             variable[word] = -1;
@@ -437,28 +428,31 @@ public final class StreamNodes {
 
     /** What stands in the text, from left to right, how far it has been read, and the first fault. */
     private static final class Tokens {
-        final Words words = new Words();
-        int[] kind = new int[256];
-        int[] place = new int[256];
+        final byte[] text;
+        final Words words;
+        final int[] kind = new int[TOKENS_ROOM];
+        final int[] place = new int[TOKENS_ROOM];
         // A word's number or a number's value.
-        int[] item = new int[256];
+        final int[] item = new int[TOKENS_ROOM];
         int size;
         int now;
         int faultKind;
         int faultPlace;
 
-        void scan(byte[] text, int length) {
-            words.begin(length);
-            kind = fit(kind, length + 2);
-            place = fit(place, length + 2);
-            item = fit(item, length + 2);
+        Tokens(byte[] tape) {
+            text = tape;
+            words = new Words(tape);
+        }
+
+        void scan(int length) {
+            words.begin();
             size = 0;
             now = 0;
             faultKind = 0;
             faultPlace = 0;
             int at = 0;
             for (int i = 0; i < length && at < length; i++) {
-                at = scanAt(text, at, length);
+                at = scanAt(at, length);
             }
             add(END, length, 0);
         }
@@ -510,38 +504,38 @@ public final class StreamNodes {
             return false;
         }
 
-        private int scanAt(byte[] text, int at, int length) {
+        private int scanAt(int at, int length) {
             int sign = text[at];
             int next = at + 1 < length ? text[at + 1] : 0;
             if (sign == ' ' || sign == '\t' || sign == '\n' || sign == '\r') {
                 return at + 1;
             }
             if (isLetter(sign)) {
-                return scanWord(text, at, length);
+                return scanWord(at, length);
             }
             if (isDigit(sign)) {
-                return scanNumber(text, at, length);
+                return scanNumber(at, length);
             }
             if (sign == '-' && next == '-') {
-                return lineEnd(text, at, length);
+                return lineEnd(at, length);
             }
             return scanSign(sign, next, at, length);
         }
 
-        private int scanWord(byte[] text, int at, int length) {
+        private int scanWord(int at, int length) {
             int end = at;
             while (end < length && (isLetter(text[end]) || isDigit(text[end]) || text[end] == '_')) {
                 end++;
             }
-            if (end - at > WORD_MOST) {
+            int word = end - at > WORD_MOST ? -1 : words.find(at, end - at);
+            if (word < 0) {
                 return addBad(at, length);
             }
-            int word = words.find(text, at, end - at);
             add(word < KEYWORD_COUNT ? NODE + word : NAME, at, word);
             return end;
         }
 
-        private int scanNumber(byte[] text, int at, int length) {
+        private int scanNumber(int at, int length) {
             int end = at;
             int number = 0;
             while (end < length && isDigit(text[end])) {
@@ -582,7 +576,7 @@ public final class StreamNodes {
             size++;
         }
 
-        private static int lineEnd(byte[] text, int at, int length) {
+        private int lineEnd(int at, int length) {
             int end = at;
             while (end < length && text[end] != '\n') {
                 end++;
@@ -638,22 +632,15 @@ public final class StreamNodes {
         // What a call of it brings, with all that is put in for its own calls.
         final int[] parts = new int[NODES_MOST];
         final int[] allVariables = new int[NODES_MOST];
-        final int[] cells = new int[NODES_MOST];
         int size;
-        int[] type = new int[128];
-        int[] clock = new int[128];
-        int[] deep = new int[128];
-        int[] timesDefined = new int[128];
-        int[] definedAt = new int[128];
+        final int[] type = new int[NODES_MOST * VARIABLES_MOST];
+        final int[] clock = new int[NODES_MOST * VARIABLES_MOST];
+        final int[] deep = new int[NODES_MOST * VARIABLES_MOST];
+        final int[] timesDefined = new int[NODES_MOST * VARIABLES_MOST];
+        final int[] definedAt = new int[NODES_MOST * VARIABLES_MOST];
         int variables;
 
-        void begin(int tokens) {
-            int most = Math.min(tokens, NODES_MOST * VARIABLES_MOST);
-            type = fit(type, most);
-            clock = fit(clock, most);
-            deep = fit(deep, most);
-            timesDefined = fit(timesDefined, most);
-            definedAt = fit(definedAt, most);
+        void begin() {
             size = 0;
             variables = 0;
         }
@@ -688,57 +675,38 @@ public final class StreamNodes {
             int from = code.from[firstEquation[own]];
             int allParts = code.parts - from + equations[own];
             int all = vars[own];
-            int allCells = 0;
             for (int i = from; i < code.parts; i++) {
-                allCells += cellsOf(code.kind[i]);
                 if (code.kind[i] == CALL) {
                     int called = code.item[i];
                     allParts = Math.min(SIZE_CAP, allParts + parts[called]);
                     all = Math.min(SIZE_CAP, all + allVariables[called]);
-                    allCells = Math.min(SIZE_CAP, allCells + cells[called]);
                 }
             }
             parts[own] = allParts;
             allVariables[own] = all;
-            cells[own] = allCells;
             size++;
-        }
-
-        private static int cellsOf(int kind) {
-            return kind == FBY ? 2 : kind == PRE || kind == ARROW || kind == CURRENT ? 1 : 0;
         }
     }
 
     /** The equations, their right sides with each part behind its sides. */
     private static final class Code {
-        int[] kind = new int[256];
+        // Each part has a word, number or sign of its own in the text.
+        final int[] kind = new int[TOKENS_ROOM];
         // A number's value, a variable's number in its node, the called node, or the clock behind when.
-        int[] item = new int[256];
-        int[] sides = new int[256];
-        int[] clock = new int[256];
+        final int[] item = new int[TOKENS_ROOM];
+        final int[] sides = new int[TOKENS_ROOM];
+        final int[] clock = new int[TOKENS_ROOM];
         int parts;
-        int[] begins = new int[64];
-        int[] from = new int[64];
-        int[] to = new int[64];
-        int[] firstLeft = new int[64];
-        int[] lefts = new int[64];
+        final int[] begins = new int[EQUATIONS_ROOM];
+        final int[] from = new int[EQUATIONS_ROOM];
+        final int[] to = new int[EQUATIONS_ROOM];
+        final int[] firstLeft = new int[EQUATIONS_ROOM];
+        final int[] lefts = new int[EQUATIONS_ROOM];
         int equations;
-        int[] left = new int[64];
+        final int[] left = new int[OPERANDS_ROOM];
         int allLefts;
 
-        void begin(int tokens) {
-            kind = fit(kind, tokens);
-            item = fit(item, tokens);
-            sides = fit(sides, tokens);
-            clock = fit(clock, tokens);
-            // An equation has at least a name, = and one part, and ends with a sign.
-            int most = tokens / 4 + 2;
-            begins = fit(begins, most);
-            from = fit(from, most);
-            to = fit(to, most);
-            firstLeft = fit(firstLeft, most);
-            lefts = fit(lefts, most);
-            left = fit(left, tokens);
+        void begin() {
             parts = 0;
             equations = 0;
             allLefts = 0;
@@ -1209,7 +1177,7 @@ public final class StreamNodes {
         final Tokens tokens;
         final Nodes nodes;
         final Code code;
-        int[] stack = new int[256];
+        final int[] stack = new int[OPERANDS_ROOM];
         int top;
         int first;
 
@@ -1222,7 +1190,6 @@ public final class StreamNodes {
         boolean check() {
             int node = nodes.size;
             first = nodes.first[node];
-            stack = fit(stack, code.parts + VARIABLES_MOST);
             for (int i = first + nodes.ins[node]; i < nodes.variables; i++) {
                 if (nodes.timesDefined[i] != 1) {
                     return tokens.fail(FAULT_NAME);
@@ -1402,32 +1369,22 @@ public final class StreamNodes {
      * sides a, b and c are the slots that it needs at the same instant, so that its causes can be found along them.
      */
     private static final class Slots {
-        int[] kind = new int[128];
-        int[] a = new int[128];
-        int[] b = new int[128];
-        int[] c = new int[128];
+        final int[] kind = new int[SLOTS_ROOM];
+        final int[] a = new int[SLOTS_ROOM];
+        final int[] b = new int[SLOTS_ROOM];
+        final int[] c = new int[SLOTS_ROOM];
         // A number's value, or the first cell of what remembers.
-        int[] item = new int[128];
+        final int[] item = new int[SLOTS_ROOM];
         int size;
         // A clock here: 0 for the base, else 1 + 2 * the slot of C, and 1 more for C than for not C.
-        int[] clock = new int[64];
-        int[] place = new int[64];
+        final int[] clock = new int[PUT_IN_MOST];
+        final int[] place = new int[PUT_IN_MOST];
         int variables;
-        int[] cellFrom = new int[64];
-        int[] cellClock = new int[64];
+        final int[] cellFrom = new int[CELLS_ROOM];
+        final int[] cellClock = new int[CELLS_ROOM];
         int cells;
 
-        void begin(int variablesDue, int partsDue, int cellsDue) {
-            int most = variablesDue + partsDue;
-            kind = fit(kind, most);
-            a = fit(a, most);
-            b = fit(b, most);
-            c = fit(c, most);
-            item = fit(item, most);
-            clock = fit(clock, variablesDue);
-            place = fit(place, variablesDue);
-            cellFrom = fit(cellFrom, cellsDue);
-            cellClock = fit(cellClock, cellsDue);
+        void begin(int variablesDue) {
             variables = variablesDue;
             size = variablesDue;
             cells = 0;
@@ -1476,7 +1433,8 @@ public final class StreamNodes {
         final int[] equation = new int[NODES_MOST];
         final int[] part = new int[NODES_MOST];
         int open;
-        int[] stack = new int[256];
+        // Each open node may hold all the outputs of the one it calls, beside one slot for a part.
+        final int[] stack = new int[PARTS_MOST + PUT_IN_MOST];
         int top;
         int variables;
         int one;
@@ -1489,9 +1447,7 @@ public final class StreamNodes {
 
         void link(int main) {
             int parts = nodes.parts[main];
-            slots.begin(nodes.allVariables[main], parts + 1, nodes.cells[main]);
-            // Each open node may hold all the outputs of the one it calls, beside one slot for a part.
-            stack = fit(stack, parts + nodes.allVariables[main]);
+            slots.begin(nodes.allVariables[main]);
             open = 0;
             top = 0;
             variables = 0;
@@ -1616,13 +1572,13 @@ public final class StreamNodes {
         private static final int SIDES = 3;
         final Slots slots;
         // The order in which slots were found, and the earliest that is still open and reached from them.
-        int[] number = new int[128];
-        int[] low = new int[128];
-        int[] side = new int[128];
-        int[] trail = new int[128];
-        int[] path = new int[128];
-        int[] seen = new int[128];
-        int[] sorted = new int[128];
+        final int[] number = new int[SLOTS_ROOM];
+        final int[] low = new int[SLOTS_ROOM];
+        final int[] side = new int[SLOTS_ROOM];
+        final int[] trail = new int[SLOTS_ROOM];
+        final int[] path = new int[SLOTS_ROOM];
+        final int[] seen = new int[SLOTS_ROOM];
+        final int[] sorted = new int[SLOTS_ROOM];
         int found;
         int trails;
         int paths;
@@ -1636,7 +1592,6 @@ public final class StreamNodes {
 
         void sort() {
             int size = slots.size;
-            makeRoom(size);
             Arrays.fill(number, 0, size, 0);
             Arrays.fill(seen, 0, size, 0);
             found = 0;
@@ -1654,16 +1609,6 @@ public final class StreamNodes {
                     advance(path[paths - 1]);
                 }
             }
-        }
-
-        private void makeRoom(int size) {
-            number = fit(number, size);
-            low = fit(low, size);
-            side = fit(side, size);
-            trail = fit(trail, size);
-            path = fit(path, size);
-            seen = fit(seen, size);
-            sorted = fit(sorted, size);
         }
 
         private void openSlot(int slot) {
@@ -1762,18 +1707,18 @@ public final class StreamNodes {
         final long[] keptShown = new long[VARIABLES_MOST];
         int ins;
         int vars;
-        int[] made = new int[128];
-        int[] values = new int[128];
-        int[] steps = new int[256];
+        final int[] made = new int[SLOTS_ROOM];
+        final int[] values = new int[SLOTS_ROOM];
+        final int[] steps = new int[STEP * PARTS_MOST];
         int stepsUsed;
-        int[] cell = new int[64];
-        int[] keptCell = new int[64];
+        final int[] cell = new int[CELLS_ROOM];
+        final int[] keptCell = new int[CELLS_ROOM];
         // The clocks that are used, by numbers: 0 is the base, each other is behind the one that its C is on.
-        int[] clockNumber = new int[128];
-        int[] clockOuter = new int[64];
-        int[] clockC = new int[64];
-        int[] clockSo = new int[64];
-        int[] clockOn = new int[64];
+        final int[] clockNumber = new int[CLOCKS_ROOM];
+        final int[] clockOuter = new int[CLOCKS_ROOM];
+        final int[] clockC = new int[CLOCKS_ROOM];
+        final int[] clockSo = new int[CLOCKS_ROOM];
+        final int[] clockOn = new int[CLOCKS_ROOM];
         int clocks;
 
         Program(Slots slots, Order order) {
@@ -1784,11 +1729,6 @@ public final class StreamNodes {
         void build(int inputs, int variables) {
             ins = inputs;
             vars = variables;
-            made = fit(made, slots.size);
-            values = fit(values, slots.size);
-            steps = fit(steps, STEP * (slots.size - slots.variables));
-            cell = fit(cell, slots.cells);
-            keptCell = fit(keptCell, slots.cells);
             buildSteps();
             buildClocks();
             for (int i = 0; i < slots.cells; i++) {
@@ -1831,7 +1771,6 @@ public final class StreamNodes {
 
         private void buildClocks() {
             int codes = 2 * slots.variables + 1;
-            clockNumber = fit(clockNumber, codes);
             Arrays.fill(clockNumber, 0, codes, 0);
             for (int i = 0; i < slots.variables; i++) {
                 clockNumber[slots.clock[i]] = 1;
@@ -1843,10 +1782,6 @@ public final class StreamNodes {
             for (int i = 1; i < codes; i++) {
                 clocks += clockNumber[i];
             }
-            clockOuter = fit(clockOuter, clocks);
-            clockC = fit(clockC, clocks);
-            clockSo = fit(clockSo, clocks);
-            clockOn = fit(clockOn, clocks);
             numberClocks(codes);
         }
 

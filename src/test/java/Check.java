@@ -16,8 +16,11 @@ final class Check {
     static void feed(StreamNodes nodes, byte[] bytes) {
         int before = nodes.count(7);
         for (int at = 0; at < bytes.length; at += 20) {
-            nodes.feed(four(bytes, at), four(bytes, at + 4), four(bytes, at + 8), four(bytes, at + 12),
-                four(bytes, at + 16));
+            // Near the tape's end there is no room for blanks: the last twenty bytes come whole.
+            int from = before + at + 20 > 65536 ? bytes.length - 20 : at;
+            nodes.end(before + from);
+            nodes.feed(four(bytes, from), four(bytes, from + 4), four(bytes, from + 8), four(bytes, from + 12),
+                four(bytes, from + 16));
         }
         nodes.end(before + bytes.length);
     }
