@@ -5,8 +5,14 @@ import java.util.function.LongSupplier;
 final class Check {
     private static int passed = 0;
     private static int failed = 0;
+    private static String sentence = "";
 
     private Check() {
+    }
+
+    /** The document's sentence that is tested from here on: it is told with each answer that is not due. */
+    static void sentence(String words) {
+        sentence = "\"" + words + "\": ";
     }
 
     static void feed(StreamNodes nodes, String text) {
@@ -73,7 +79,7 @@ final class Check {
             passed++;
         } else {
             failed++;
-            System.out.println(what + ": answered " + got + ", due is " + due);
+            System.out.println(sentence + inOneLine(what) + ": answered " + got + ", due is " + due);
         }
     }
 
@@ -92,8 +98,15 @@ final class Check {
             passed++;
         } else {
             failed++;
-            System.out.println(what + ": " + got + ", due is " + due.getName());
+            System.out.println(sentence + what + ": " + got + ", due is " + due.getName());
         }
+    }
+
+    /** Long texts lose their middle. */
+    private static String inOneLine(String what) {
+        String line = what.replace("\n", "\\n");
+        int length = line.length();
+        return length <= 400 ? line : line.substring(0, 200) + " ... " + line.substring(length - 200);
     }
 
     static void finish(Class<?> test) {

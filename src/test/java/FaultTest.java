@@ -1,6 +1,6 @@
 import java.util.Locale;
 
-/** Each fault with its place, which a @ marks, at and beyond each limit, and which of several faults is the first. */
+/** Each fault but that of SIZES with its place, which a @ marks. */
 public final class FaultTest {
     private static final String F = "node f(a: int) returns (r: int); let r = a; tel ";
     private static final String TWO = "node two(a: int; b: bool) returns (r: int; s: bool); let r = a; s = b; tel ";
@@ -21,20 +21,11 @@ public final class FaultTest {
         namesUsed();
         nodeEnds();
         noEquations();
-        nesting();
-        height();
-        manyNodes();
-        manyVariables();
-        deepClocks();
         types();
         calls();
         clocks();
-        parts();
-        variablesPutIn();
-        allParts();
         ownCauses();
         ownCausesPutIn();
-        order();
         Check.finish(FaultTest.class);
     }
 
@@ -50,18 +41,6 @@ public final class FaultTest {
 
     private static void good(String expression) {
         Check.program(CLOCKED + "y = " + expression + "; tel");
-    }
-
-    private static String times(String what, int count) {
-        return what.repeat(count);
-    }
-
-    private static String names(String letter, int count) {
-        StringBuilder names = new StringBuilder(letter + "0");
-        for (int i = 1; i < count; i++) {
-            names.append(",").append(letter).append(i);
-        }
-        return names.toString();
     }
 
     private static void signs() {
@@ -160,6 +139,9 @@ public final class FaultTest {
         within("1 + @* 2", 1);
         within("1 + @if c then 1 else 2", 1);
         within("- @if c then 1 else 2", 1);
+        within("pre @if c then 1 else 2", 1);
+        within("current @if c then 1 else 2", 1);
+        within("if not @if c then c else c then 1 else 2", 1);
         within("if c => @if c then c else c then 1 else 2", 1);
         within("if c @else 1", 1);
         within("if c then 1@", 1);
@@ -194,6 +176,10 @@ public final class FaultTest {
         good("f(if c then 1 else 2)");
         good("(if c then 1 else 2)");
         good("if if c then c else b then 1 else 2");
+        good("if not c then if not c then 1 else - 2 else if c then 3 else 4");
+        good("- x -> if c then 1 else 2");
+        good("x + 1 fby if c then 1 else 2");
+        Check.program(TWO + MAIN + "let (y, b) = two(- x, if not c then c else if c then not c else c); tel");
         good("if c then if b then 1 else 2 else 3");
         good("if c => b => c or b xor c and b = c then 1 else - - x * 2 div 3 mod 4 + 5 - 6");
         good("if (c = c) = c and c = c or c <> (c = c) then 1 else 2");
@@ -259,124 +245,8 @@ public final class FaultTest {
         Check.faultyAt(MAIN + "let @tel node f(a: int) returns (r: int); let r = a; tel", 1);
         Check.faultyAt(F + TWO + MAIN + "let @tel", 1);
         Check.faultyAt(MAIN + "let @", 1);
-        Check.faultyAt("node one(a: int) returns (r: int); let r = a; tel node two(a: int) returns (r: int); let @tel", 1);
-    }
-
-    private static void nesting() {
-        good(times("(", 40) + "x" + times(")", 40));
-        within(times("(", 41) + "@x" + times(")", 41), 3);
-        within(times("(", 41) + "@#", 3);
-        within(times("(", 41) + "@1234567890", 3);
-        within(times("(", 41) + "@none" + times(")", 41), 3);
-        within(times("(", 41) + "@)", 3);
-        within(times("(", 40) + "x" + times(")", 40) + "@)", 1);
-        Check.faultyAt(MAIN + "let y = " + times("(", 41) + "@", 3);
-        good(times("f(", 40) + "x" + times(")", 40));
-        within(times("f(", 41) + "@x" + times(")", 41), 3);
-        good(times("- ", 40) + "x");
-        within(times("- ", 41) + "@x", 3);
-        good(times("pre ", 40) + "x");
-        within(times("pre ", 41) + "@x", 3);
-        good("if " + times("not ", 39) + "c then 1 else 2");
-        within("if " + times("not ", 40) + "@c then 1 else 2", 3);
-        ofAll(times("current ", 40) + "x", 6);
-        within(times("current ", 41) + "@x", 3);
-        good(times("x -> ", 40) + "x");
-        within(times("x -> ", 41) + "@x", 3);
-        good(times("x fby ", 40) + "x");
-        within(times("x fby ", 41) + "@x", 3);
-        good("if " + times("c => ", 39) + "c then 1 else 2");
-        within("if " + times("c => ", 40) + "@c then 1 else 2", 3);
-        good(times("if c then 1 else ", 40) + "x");
-        within(times("if c then 1 else ", 40) + "if @c then 1 else x", 3);
-        good(times("if c then ", 40) + "x" + times(" else 2", 40));
-        within(times("if c then ", 40) + "if @c", 3);
-        good(times("(x + ", 40) + "x" + times(")", 40));
-        good("x" + times(" + x", 150) + " + " + times("(", 40) + "x" + times(")", 40));
-        good("if c => c then x -> x else x fby " + times("(", 38) + "x" + times(")", 38));
-        within("if c => c then x -> x else x fby " + times("(", 39) + "@x", 3);
-        Check.program(TWO + MAIN + "let (y, b) = two(" + times("- ", 39) + "x, c); tel");
-        Check.faultyAt(TWO + MAIN + "let (y, b) = two(" + times("- ", 40) + "@x, c); tel", 3);
-        Check.program(TWO + MAIN + "let (y, b) = two(x, " + times("not ", 39) + "c); tel");
-    }
-
-    private static void height() {
-        String high = "x" + times(" + x", 199);
-        good(high);
-        within(high + " + x@", 3);
-        within(high + " + x @+ x", 3);
-        within(high + " + x * 2 @- none", 3);
-        within(high + " + x @x", 3);
-        good("(" + high + ")");
-        good("1 + 1 * (x" + times(" * x", 197) + ")");
-        within("1 + 1 * (x" + times(" * x", 198) + ")@", 3);
-        within("- (" + high + ") @+ 1", 3);
-        within("f(" + high + ")@", 3);
-        within("f(" + high + ") @#", 3);
-        within("f(" + high + " + x@)", 3);
-        within("current (" + high + ") when c@", 3);
-        within("(" + high + ") when @none", 2);
-        within("if c then 1 else " + high + "@", 3);
-        within("(if " + high + " > 1 @then 1 else 2)", 3);
-        within("1 -> " + high + "@", 3);
-        String whens = "x" + times(" when c", 199);
-        ofAll(whens, 6);
-        within(whens + " when c@", 3);
-        within(whens + " when not c @when c", 3);
-    }
-
-    private static String nodes(int count) {
-        StringBuilder text = new StringBuilder();
-        for (int i = 0; i < count; i++) {
-            text.append("node n").append(i).append("(x: int) returns (y: int); let y = x; tel ");
-        }
-        return text.toString();
-    }
-
-    private static void manyNodes() {
-        Check.same("59 nodes", Check.program(nodes(59)).count(8), 59);
-        Check.faultyAt(nodes(59) + "@node", 3);
-        Check.faultyAt(nodes(59) + "@node #", 3);
-        Check.faultyAt(nodes(59) + "@node n0(x: int) returns (y: int); let y = x; tel", 3);
-        Check.faultyAt(nodes(59) + "@tel", 1);
-        // A chain of all 59, each called by the next.
-        StringBuilder chain = new StringBuilder("node n0(x: int) returns (y: int); let y = x + (1 fby y); tel ");
-        for (int i = 1; i < 59; i++) {
-            chain.append("node n").append(i).append("(x: int) returns (y: int); let y = n").append(i - 1)
-                .append("(x); tel ");
-        }
-        StreamNodes nodes = Check.program(chain.toString());
-        Check.same("variables of a chain", nodes.count(3), 118);
-        nodes.input(0, 3);
-        Check.values(nodes, 1, 4, 7, 10);
-    }
-
-    private static void manyVariables() {
-        String most = "node main(" + names("i", 98) + ": int) returns (y: int); let y = i97; tel";
-        Check.same("99 variables", Check.program(most).count(0), 99);
-        Check.faultyAt("node main(" + names("i", 99) + ": int) returns (@y: int); let", 3);
-        Check.faultyAt("node main(" + names("i", 99) + ",@j: int) returns (y: int); let", 3);
-        Check.faultyAt("node main(" + names("i", 99) + ": int) returns (@i0: int); let", 2);
-        Check.faultyAt("node main(" + names("i", 99) + ": int) returns (@1: int); let", 1);
-        Check.faultyAt("node main(x: int) returns (y: int); var " + names("i", 97) + ": int; @j: int; let", 3);
-    }
-
-    private static void deepClocks() {
-        StringBuilder head = new StringBuilder("node main(c0: bool; x: int) returns (y: int); var ");
-        StringBuilder body = new StringBuilder("let ");
-        for (int i = 1; i <= 8; i++) {
-            head.append("c").append(i).append(": bool when ").append(i % 2 == 0 ? "not c" : "c").append(i - 1)
-                .append("; ");
-            body.append("c").append(i).append(" = true; ");
-        }
-        Check.program(head + "" + body + "y = x; tel");
-        Check.faultyAt(head + "h: int when @c8; let", 3);
-        Check.faultyAt(head + "h: int when not @c8; let", 3);
-        Check.faultyAt(head + "h: int when @x; let", 2);
-        Check.faultyAt(head + "" + body + "y = x when @c8; tel", 3);
-        Check.faultyAt(head + "" + body + "y = x when not @c8; tel", 3);
-        Check.program(head + "" + body + "y = " + times("current ", 8) + "(x when c0 when not c1 when c2 when not c3"
-            + " when c4 when not c5 when c6 when c7); tel");
+        Check.faultyAt("node one(a: int) returns (r: int); let r = a; tel node two(a: int) returns (r: int); let @tel",
+            1);
     }
 
     private static void types() {
@@ -419,7 +289,7 @@ public final class FaultTest {
         ofAll("if 1 then f(1, 2) else 3", 5);
         ofAll("two(1, c + 1)", 4);
         ofAll("f(1, 2) + h", 5);
-        ofAll("f(1" + times(",1", 3000) + ")", 5);
+        ofAll("f(1" + ",1".repeat(3000) + ")", 5);
     }
 
     private static void clocks() {
@@ -444,84 +314,6 @@ public final class FaultTest {
         ofAll("f(h) + c", 4);
         Check.faultyAt(MAIN + "let @y = x when c; b = x; tel", 6);
         Check.faultyAt(MAIN + "let @b = x; y = x when c; tel", 4);
-    }
-
-    // 248 parts.
-    private static final String SUM = "node g(x: int) returns (y: int); let y = x" + times(" + x", 123) + "; tel ";
-    // 11 of them with their calls and inputs, 10 signs, and the equation: 2,761; then 2 for z = x, and 2 for each sign.
-    private static final String LARGE = SUM + "node main(x: int) returns (y: int; z: int); let y = g(x)"
-        + times(" + g(x)", 10) + "; z = x";
-
-    private static void parts() {
-        Check.same("2,999 parts", Check.program(LARGE + times(" + x", 118) + "; tel").count(4), 2999);
-        Check.same("3,000 parts", Check.program(LARGE + times(" + x", 118).replaceFirst("x", "- x") + "; tel").count(4),
-            3000);
-        Check.faultyAt(LARGE + times(" + x", 119) + "; tel  @", 3);
-        Check.faultyAt(LARGE.replace("z = x", "z = z") + times(" + x", 119) + "; tel@", 3);
-        Check.faultyAt(doubling(59) + "@", 3);
-        // What is not called is not put in.
-        Check.same("parts of the main alone", Check.program(doubling(58) + "node main(x: int) returns (y: int);"
-            + " let y = x; tel").count(4), 2);
-    }
-
-    /** Each node calls the one before it twice. */
-    private static String doubling(int nodes) {
-        StringBuilder text = new StringBuilder("node n0(x: int) returns (y: int); let y = x; tel ");
-        for (int i = 1; i < nodes; i++) {
-            text.append("node n").append(i).append("(x: int) returns (y: int); let y = n").append(i - 1).append("(n")
-                .append(i - 1).append("(x)); tel ");
-        }
-        return text.toString();
-    }
-
-    /** Nodes with 98 outputs that only hand on: w0 to w13, and s that calls the last: 15 times 99 variables. */
-    private static String wide() {
-        String outs = names("o", 98);
-        StringBuilder text = new StringBuilder("node w0(x:int)returns(" + outs + ":int);let ");
-        for (int i = 0; i < 98; i++) {
-            text.append("o").append(i).append("=x;");
-        }
-        text.append("tel ");
-        for (int i = 1; i <= 13; i++) {
-            text.append("node w").append(i).append("(x:int)returns(").append(outs).append(":int);let (").append(outs)
-                .append(")=w").append(i - 1).append("(x);tel ");
-        }
-        return text + "node s(x:int)returns(y:int);var " + names("o", 97) + ":int;let (y," + names("o", 97)
-            + ")=w13(x);tel node id(x:int)returns(y:int);let y=x;tel ";
-    }
-
-    private static void variablesPutIn() {
-        String ids = times("id(", 29) + "x" + times(")", 29);
-        String sum = "y=s(x)+s(x)+s(x)+s(x)+" + ids + ";tel";
-        StreamNodes nodes = Check.program(wide() + "node main(x:int)returns(y:int);let " + sum);
-        Check.same("6,000 variables", nodes.count(3), 6000);
-        Check.same("their parts", nodes.count(4), 4 * (98 * 2 + 13 * 3 + 3 + 2) + 29 * (2 + 1) + 1 + 4 + 1);
-        nodes.input(0, 5);
-        nodes.tick(2);
-        Check.same("what many nodes hand on", nodes.value(1), 25);
-        Check.same("causes through many nodes", nodes.causes(1, 0), true);
-        Check.faultyAt(wide() + "node main(x:int)returns(y:int);var z:int;let z=x;" + sum + "@", 3);
-    }
-
-    private static void allParts() {
-        String text = LARGE + times(" + x", 118) + "; tel";
-        String circle = text.replace("z = x", "z = z");
-        StreamNodes nodes = new StreamNodes();
-        for (int i = 0; i < 9; i++) {
-            Check.same("a text of 2,999 parts", Check.read(nodes, text), 25);
-            Check.same("a spoiled text", Check.read(nodes, text + "#"), -1);
-            Check.same("its fault, which does not count", nodes.fault(0), 1);
-        }
-        Check.same("a text in a circle", Check.read(nodes, circle), -1);
-        Check.same("its fault, which counts", nodes.fault(0), 7);
-        Check.same("29,990 and 2", Check.read(nodes, "node m(x: int) returns (y: int); let y = x; tel"), 2);
-        String nine = "node m(x: int) returns (y: int); let y = - x + x + x + x; tel";
-        Check.same("29,992 and 9", Check.read(nodes, nine), -1);
-        Check.same("fault 3 for all texts", nodes.fault(0), 3);
-        Check.same("its place", nodes.fault(1), nine.length());
-        Check.same("29,992 and 8", Check.read(nodes, "node m(x: int) returns (y: int); let y = x + x + x + x; tel"), 2);
-        Check.same("30,000 and 2", Check.read(nodes, "node m(x: int) returns (y: int); let y = y; tel"), -1);
-        Check.same("fault 3 ahead of fault 7", nodes.fault(0), 3);
     }
 
     private static void ownCauses() {
@@ -567,16 +359,5 @@ public final class FaultTest {
             + " var p: bool; let y = 1; @p = current k(1 when p); tel", 7);
         Check.program("node k(a: int) returns (r: bool); let r = true; tel node main(x: int) returns (y: int);"
             + " var p: bool; let y = 1; p = pre current k(1 when p); tel");
-    }
-
-    private static void order() {
-        Check.faultyAt("node m(x: int) returns (y: int); let @y = true; tel node m(#", 4);
-        Check.faultyAt("node m(x: int) returns (y: int); let y = true; @none", 2);
-        Check.faultyAt("node m(x: int) returns (y, z: int); let y = true; z = @#", 1);
-        Check.faultyAt("node m(x: int) returns (y, z: int); let y = true; @tel", 2);
-        Check.faultyAt("node m(x: int) returns (y, z: int); let @z = x = 1; y = true; tel", 4);
-        Check.faultyAt("node m(x: int; c: bool) returns (y, z: int); let @z = x when c; y = true; tel", 6);
-        Check.faultyAt("node m(x: int) returns (y: int); let y = y; tel node @m(x: int)", 2);
-        Check.faultyAt("node m(x: int) returns (y: int); let @y = y; tel --", 7);
     }
 }

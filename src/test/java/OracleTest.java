@@ -2,8 +2,9 @@ import java.util.ArrayList;
 import java.util.List;
 import java.util.Random;
 import java.util.Set;
+import java.util.regex.Matcher;
 
-/** Random texts, good ones and spoiled ones, read and run by the program and by the oracle. */
+/** One text spoiled at every place, and random texts, good ones and spoiled ones, by the program and by the oracle. */
 public final class OracleTest {
     private static final String[] PIECES = {"(", ")", ":", ";", ",", "=", "<>", "<", "<=", ">", ">=", "+", "-", "*",
         "->", "=>", "node", "returns", "var", "let", "tel", "int", "bool", "when", "not", "and", "or", "xor", "if",
@@ -22,6 +23,7 @@ public final class OracleTest {
     public static void main(String[] args) {
         int rounds = args.length > 0 ? Integer.parseInt(args[0]) : 4000;
         OracleTest test = new OracleTest(args.length > 1 ? Long.parseLong(args[1]) : 1);
+        test.compareAtEveryPlace(TextTest.ALL);
         for (int i = 0; i < rounds; i++) {
             String text = new TextMaker(test.random).make();
             test.compare(text);
@@ -37,6 +39,22 @@ public final class OracleTest {
         }
         System.out.println("texts by fault, from 0:" + faults);
         Check.finish(OracleTest.class);
+    }
+
+    /** Each word, number and sign left out, replaced by each other one, and with each other one behind it. */
+    private void compareAtEveryPlace(String text) {
+        List<String> others = new ArrayList<>(List.of(PIECES));
+        others.addAll(List.of("c", "x", "h", "f", "p", "q", "y", "b"));
+        Matcher pieces = TextTest.PIECE.matcher(text);
+        while (pieces.find()) {
+            String front = text.substring(0, pieces.start());
+            String behind = text.substring(pieces.end());
+            compare(front + " " + behind);
+            for (String other : others) {
+                compare(front + " " + other + " " + behind);
+                compare(front + pieces.group() + " " + other + " " + behind);
+            }
+        }
     }
 
     private String spoiled(String text) {

@@ -191,6 +191,20 @@ public final class RoomTest {
         Check.faulty(fill(TAPE, MAIN + "b=a", "+a", ";tel"), 3, MAIN.length() + 3 + 2 * 200);
         Check.faulty(fill(TAPE, MAIN + "b=a", sum, ";tel"), 3, MAIN.length() + 3 + sum.length() * 188);
         manyParts();
+        brimAfterBrim();
+    }
+
+    /** All on one object: each read begins at the front of its rows again. */
+    private static void brimAfterBrim() {
+        StreamNodes nodes = new StreamNodes();
+        String[] texts = {fill(TAPE, MAIN, "b=1;", " tel"), fill(TAPE, F + MAIN + "(b", ",b", ")=f(a); tel"),
+            fill(TAPE, F + MAIN + "b=f(1", ",1", ");tel"), full(";")};
+        for (int i = 0; i < 3; i++) {
+            for (String text : texts) {
+                Check.same("read of a full tape", Check.read(nodes, text), -1);
+            }
+            Check.same("read of a short one", Check.read(nodes, MAIN + "b=a;tel"), 2);
+        }
     }
 
     /** A text of that length: blanks stand ahead of its tail where the piece has no more room. */

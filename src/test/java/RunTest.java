@@ -293,7 +293,8 @@ public final class RunTest {
         }
         // Through a call on a clock, whose C is a cause of all that is put in.
         StreamNodes called = Check.program("node one(a: int) returns (r: int); let r = 1; tel"
-            + " node main(c: bool; x: int) returns (y: int); var h: int when c; let h = one(x when c); y = current h; tel");
+            + " node main(c: bool; x: int) returns (y: int); var h: int when c; let h = one(x when c);"
+            + " y = current h; tel");
         Check.same("an input that is not used", called.causes(2, 1), false);
         Check.same("the clock of a call", called.causes(2, 0), true);
     }
