@@ -243,6 +243,7 @@ public final class RoomTest {
         StreamNodes nodes = Check.program(text + last + "; tel");
         Check.same("variables of the last node", nodes.count(0), 99);
         Check.same("nodes", nodes.count(8), 59);
+        Check.same("read once more", Check.read(nodes, text + last + "; tel"), 99);
         StringBuilder more = new StringBuilder();
         for (int i = 6000; i < 9000; i++) {
             more.append("+").append(name(i));

@@ -298,7 +298,8 @@ public final class SizeTest {
         Check.sentence("HEIGHT of an EXPRESSION");
         // What stood in another EXPRESSION, however high it was, adds nothing.
         String head = F + "node m(x: int) returns (y, z: int); let ";
-        Check.program(head + "y = f(" + sum(199) + "); z = - - f(x); tel");
+        Check.program(head + "y = f(" + sum(199) + "); z = f(x) + 1; tel");
+        Check.program(head + "y = - f(" + sum(198) + "); z = - f(x) + 1 + 2; tel");
         Check.program(head + "y = 1 + 1 * (" + sum(198) + "); z = " + sum(200) + "; tel");
         Check.program(head + "y = 1 + 1 * (" + sum(198) + "); z = - (1 + (2 + 3)); tel");
         Check.program(head + "y = (" + sum(198) + ") + f(x + x * x) ; z = " + sum(200) + "; tel");
