@@ -347,7 +347,7 @@ public final class FaultTest {
         String both = "node s(a, e: int) returns (r, t: int); let r = a; t = e; tel ";
         Check.program(both + MAIN + "var p: int; let (p, y) = s(x, p); b = c; tel");
         Check.faultyAt(both + MAIN + "var p: int; let b = c; @(p, y) = s(y, p); tel", 7);
-        // The main's variables are free of circles here; the first that is not is an input of a called node.
+        // The main's variables are free of circles here; the first that is not is one of a called node.
         String own = "node g(a: int) returns (r: int); let r = 0 -> pre a; tel ";
         String outer = "node o(a: int) returns (r: int); var v: int; let r = a; ";
         Check.program(own + outer + "v = g(v); tel " + MAIN + "let y = o(x); b = c; tel");
