@@ -1683,7 +1683,8 @@ public final class StreamNodes {
             path[0] = from;
             seen[from] = asked;
             int used = 1;
-            for (int i = 0; i < used; i++) {
+            // Each slot comes to the path once, so there are never more than slots.
+            for (int i = 0; i < used && i < slots.size; i++) {
                 for (int j = 0; j < SIDES; j++) {
                     int cause = slots.side(path[i], j);
                     if (cause >= 0 && seen[cause] != asked) {
